@@ -5,6 +5,8 @@ public final class DistancesTest {
         next();
         nextAfterChanges();
         cursor();
+        lastPairOfZeros();
+        nodesBeside();
         cursorRefuses();
         nearest();
         within();
@@ -129,6 +131,44 @@ public final class DistancesTest {
         t.move(8, 2, 0);
         Check.due("last distance after the point moved", 9, () -> t.cursor(2, 2));
         Check.due("pairs after it", 4, () -> t.cursor(2, 4));
+    }
+
+    /** The least pair there can be, the distance 0 with the id 0, is not the same as none. */
+    private static void lastPairOfZeros() {
+        SkipQuadtree t = new SkipQuadtree();
+        t.add(0, 7, 8);
+        t.add(1, 7, 8);
+        t.open(0, 7, 8);
+        Check.due("pairs before the first", 2, () -> t.cursor(0, 4));
+        Check.due("next(0) at the center", 0, () -> t.next(0));
+        int[] wants = {7, 8, 0, 0, 1, 1};
+        for (int what = 0; what < 6; what++) {
+            int asked = what;
+            Check.due("cursor(0, " + what + ") of the least pair", wants[what], () -> t.cursor(0, asked));
+        }
+        Check.due("nearest(7, 8, 0)", 0, () -> t.nearest(7, 8, 0));
+        Check.due("nearest(7, 8, 1)", 1, () -> t.nearest(7, 8, 1));
+        Check.due("next(0) again", 1, () -> t.next(0));
+    }
+
+    /** The node (16, 16) of 4 is 9 away from each center, which is one more than the last distance. */
+    private static void nodesBeside() {
+        int[][] centers = {{22, 16}, {13, 16}, {16, 22}, {16, 13}};
+        int[][] points = {{24, 18}, {11, 14}, {18, 24}, {14, 11}};
+        for (int k = 0; k < 4; k++) {
+            SkipQuadtree t = new SkipQuadtree();
+            t.add(0, 16, 16);
+            t.add(2, 19, 19);
+            t.add(4, points[k][0], points[k][1]);
+            t.open(0, centers[k][0], centers[k][1]);
+            Check.due("next(0) beside the node, center " + k, 4, () -> t.next(0));
+            Check.due("its distance, center " + k, 8, () -> t.cursor(0, 2));
+            int all = t.level(0, 1);
+            Check.due("all nodes but that one, center " + k, all - 1, () -> t.cursor(0, 5));
+            t.remove(4);
+            Check.due("next(0) of the node, center " + k, k % 2 == 0 ? 2 : 0, () -> t.next(0));
+            Check.due("that node too, center " + k, 2, () -> t.cursor(0, 5));
+        }
     }
 
     private static void cursorRefuses() {

@@ -11,10 +11,13 @@ public final class ScriptsTest {
         numberFaults();
         placeFaults();
         scriptsWithoutFault();
+        fullScripts();
+        shorterScripts();
         runAndUndo();
         time();
         undo();
         undoRestoresAll();
+        undoOfCursors();
         digest();
         Check.close("ScriptsTest");
     }
@@ -102,6 +105,9 @@ public final class ScriptsTest {
         dueFault("tick 1;tic;", 7);
         dueFault("  ad!", 2);
         dueFault("addd 1 1 1;", 0);
+        dueFault("xdd 1 1 1;", 0);
+        dueFault("axd 1 1 1;", 0);
+        dueFault("adx 1 1 1;", 0);
         dueFault("remove 1;", 0);
         dueFault("add1 1 1;", 3);
         dueFault("add;", 3);
@@ -165,6 +171,33 @@ public final class ScriptsTest {
             Check.due("run of \"" + text + "\"", wants[k], () -> Check.run(t, text));
             Check.due("undo() after \"" + text + "\"", 0, t::undo);
         }
+    }
+
+    /** Scripts of 120 bytes, each ending in another kind of byte. */
+    private static void fullScripts() {
+        String front = "tick 1;".repeat(16);
+        String[] ends = {"aaaaaaaa", "        ", "    tick", "tick   1", "tick  12", "tick   -", "tick    ", "tick 12 ",
+            "tick 12;"};
+        int[] answers = {MARK - 112, 16, MARK - 120, MARK - 120, MARK - 120, MARK - 120, MARK - 120, MARK - 120, 17};
+        for (int k = 0; k < ends.length; k++) {
+            String text = front + ends[k];
+            int want = answers[k];
+            Check.due("run of a full script with the end \"" + ends[k] + "\"", want,
+                () -> Check.run(new SkipQuadtree(), text));
+        }
+        Check.due("run of 120 letters", MARK, () -> Check.run(new SkipQuadtree(), "a".repeat(120)));
+        Check.due("run of 120 spaces", 0, () -> Check.run(new SkipQuadtree(), " ".repeat(120)));
+    }
+
+    /** What stood in the script before it was emptied must not be read any more. */
+    private static void shorterScripts() {
+        SkipQuadtree t = new SkipQuadtree();
+        Check.due("a longer word", MARK, () -> Check.run(t, "ticka 1;"));
+        Check.due("a shorter word", MARK - 4, () -> Check.run(t, "tick"));
+        Check.due("a longer number", 1, () -> Check.run(t, "tick 12;"));
+        Check.due("a shorter number", MARK - 6, () -> Check.run(t, "tick 1"));
+        Check.due("a number and a space", MARK - 8, () -> Check.run(t, "tick 12 "));
+        Check.due("a number with a semicolon behind the end", MARK - 7, () -> Check.run(t, "tick 12"));
     }
 
     private static void runAndUndo() {
@@ -281,6 +314,26 @@ public final class ScriptsTest {
         for (int level = 0; level < 5; level++) {
             int asked = level;
             Check.due("nodes of " + level, other.level(level, 1), () -> t.level(asked, 1));
+        }
+    }
+
+    private static void undoOfCursors() {
+        SkipQuadtree t = new SkipQuadtree();
+        t.scatter(0, 5, 64, 8);
+        for (int k = 0; k < 4; k++) {
+            int cursor = k;
+            t.open(cursor, 10 + k, 20 + k);
+            int first = t.next(cursor);
+            t.next(cursor);
+            t.undo();
+            Check.due("the last id of cursor " + k + " after undo of next", first, () -> t.cursor(cursor, 3));
+            t.open(cursor, 1, 2);
+            t.undo();
+            Check.due("the last id of cursor " + k + " after undo of open", first, () -> t.cursor(cursor, 3));
+            Check.due("x of cursor " + k + " after undo of open", 10 + k, () -> t.cursor(cursor, 0));
+            Check.due("y of cursor " + k + " after undo of open", 20 + k, () -> t.cursor(cursor, 1));
+            t.undo();
+            Check.due("the last id of cursor " + k + " after undo of the first next", -1, () -> t.cursor(cursor, 3));
         }
     }
 

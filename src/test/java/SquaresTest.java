@@ -8,6 +8,7 @@ public final class SquaresTest {
         child();
         search();
         searchOutside();
+        searchDeep();
         worst();
         wouldTouch();
         Check.close("SquaresTest");
@@ -168,6 +169,32 @@ public final class SquaresTest {
         dueSearch(new SkipQuadtree(), 5, 5, true, 0, 0, 64);
         t.add(15, 62, 62);
         dueSearch(t, 1, 0, true, 6, 2, 2);
+    }
+
+    /** A square may have another number in each level, and the deepest search takes five steps in one level. */
+    private static void searchDeep() {
+        SkipQuadtree t = new SkipQuadtree();
+        t.add(0, 0, 0);
+        t.add(2, 1, 0);
+        t.add(1, 40, 40);
+        t.add(3, 60, 60);
+        t.add(5, 0, 40);
+        t.add(4, 2, 41);
+        t.add(6, 34, 34);
+        dueSearch(t, 60, 60, true, 3, 3, 32);
+        dueSearch(t, 34, 34, true, 4, 4, 16);
+        dueSearch(t, 2, 41, true, 3, 2, 4);
+        t.scatter(0, 24, 1, 0);
+        t.move(15, 1, 0);
+        t.move(23, 2, 0);
+        t.move(7, 4, 0);
+        t.move(3, 8, 0);
+        t.move(11, 16, 0);
+        t.move(19, 32, 0);
+        dueSearch(t, 0, 0, false, 5, 5, 2);
+        dueSearch(t, 0, 0, true, 7, 5, 2);
+        dueSearch(t, 5, 7, false, 3, 3, 8);
+        Check.due("worst(false) of five squares in one another", 5, () -> t.worst(false));
     }
 
     /** Promise 13. */
