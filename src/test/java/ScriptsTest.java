@@ -248,54 +248,39 @@ public final class ScriptsTest {
         Check.due("time() at last", 0, t::time);
     }
 
-    private static void undoRestoresAll() {
-        SkipQuadtree t = new SkipQuadtree();
-        t.scatter(0, 20, 32, 4711);
+    private static void fourChanges(SkipQuadtree t) {
         t.setVelocity(7, 3, -2);
         t.open(1, 20, 20);
         t.next(1);
-        t.tick(3);
-        t.undo();
         t.tick(5);
+    }
+
+    private static void undoFour(SkipQuadtree t) {
+        for (int k = 0; k < 4; k++) {
+            t.undo();
+        }
+    }
+
+    private static void undoRestoresAll() {
+        SkipQuadtree t = new SkipQuadtree();
+        t.scatter(0, 20, 32, 4711);
+        fourChanges(t);
         long before = t.digest();
-        SkipQuadtree same = new SkipQuadtree();
-        same.scatter(0, 20, 32, 4711);
-        same.setVelocity(7, 3, -2);
-        same.open(1, 20, 20);
-        same.next(1);
-        same.tick(5);
-        Check.due("digest() of the same calls without a detour", before, same::digest);
+        SkipQuadtree plain = new SkipQuadtree();
+        plain.scatter(0, 20, 32, 4711);
+        fourChanges(plain);
         Check.type(t, "tick");
         t.open(1, 1, 1);
         t.open(2, 1, 1);
         t.remove(7);
         t.scatter(0, 24, 64, 5);
-        for (int k = 0; k < 4; k++) {
-            t.undo();
-        }
+        undoFour(t);
         Check.due("the script stays through undo", 4, t::clearScript);
-        for (int k = 0; k < 4; k++) {
-            same.undo();
-        }
-        Check.due("time() after undoing all that is left", 0, same::time);
-        SkipQuadtree again = new SkipQuadtree();
-        again.scatter(0, 20, 32, 4711);
-        for (int left = 0; left < 3; left++) {
-            again.setVelocity(19, 0, 0);
-        }
-        again.setVelocity(7, 3, -2);
-        again.open(1, 20, 20);
-        again.next(1);
-        again.tick(5);
-        for (int k = 0; k < 4; k++) {
-            again.undo();
-        }
-        again.setVelocity(7, 3, -2);
-        again.open(1, 20, 20);
-        again.next(1);
-        again.tick(5);
-        Check.due("digest() after the same calls were undone and made again", before, again::digest);
-        compareAll(t, again);
+        compareAll(t, plain);
+        undoFour(plain);
+        Check.due("time() after undoing all that is left", 0, plain::time);
+        fourChanges(plain);
+        Check.due("digest() after the same calls were undone and made again", before, plain::digest);
     }
 
     private static void compareAll(SkipQuadtree t, SkipQuadtree other) {

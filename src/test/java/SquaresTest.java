@@ -50,6 +50,16 @@ public final class SquaresTest {
         Check.badArgument(t, "level(4, 5)", () -> t.level(4, 5));
     }
 
+    /** From points that are all at (0, 0): makes a square of each size in the next greater one. */
+    private static void spread(SkipQuadtree t) {
+        t.move(15, 1, 0);
+        t.move(23, 2, 0);
+        t.move(7, 4, 0);
+        t.move(3, 8, 0);
+        t.move(11, 16, 0);
+        t.move(19, 32, 0);
+    }
+
     private static void levelOfEquals() {
         SkipQuadtree t = new SkipQuadtree();
         t.scatter(0, 24, 1, 5);
@@ -58,12 +68,7 @@ public final class SquaresTest {
         dueLevel(t, 2, 6, 1, 0, 1, 1);
         dueLevel(t, 3, 3, 1, 0, 1, 1);
         dueLevel(t, 4, 1, 1, 0, 1, 1);
-        t.move(15, 1, 0);
-        t.move(23, 2, 0);
-        t.move(7, 4, 0);
-        t.move(3, 8, 0);
-        t.move(11, 16, 0);
-        t.move(19, 32, 0);
+        spread(t);
         dueLevel(t, 0, 24, 6, 5, 7, 7);
         dueLevel(t, 2, 6, 5, 4, 6, 6);
         dueLevel(t, 3, 3, 3, 2, 3, 3);
@@ -185,12 +190,7 @@ public final class SquaresTest {
         dueSearch(t, 34, 34, true, 4, 4, 16);
         dueSearch(t, 2, 41, true, 3, 2, 4);
         t.scatter(0, 24, 1, 0);
-        t.move(15, 1, 0);
-        t.move(23, 2, 0);
-        t.move(7, 4, 0);
-        t.move(3, 8, 0);
-        t.move(11, 16, 0);
-        t.move(19, 32, 0);
+        spread(t);
         dueSearch(t, 0, 0, false, 5, 5, 2);
         dueSearch(t, 0, 0, true, 7, 5, 2);
         dueSearch(t, 5, 7, false, 3, 3, 8);
