@@ -7,8 +7,14 @@ final class Check {
 
     private static int checks = 0;
     private static int wrong = 0;
+    private static String title = "";
 
     private Check() {
+    }
+
+    /** What stands in front of each wrong answer from here on. */
+    static void entitle(String name) {
+        title = name;
     }
 
     /** The answer of a call as a text: a number, or the name of what it throws behind "throws.". */
@@ -24,7 +30,7 @@ final class Check {
         checks++;
         if (!got.equals(want)) {
             wrong++;
-            System.out.println(what + " answered " + got + ", due is " + want);
+            System.out.println(title + what + " answered " + got + ", due is " + want);
         }
     }
 
@@ -32,23 +38,8 @@ final class Check {
         same(what, told(call), Long.toString(want));
     }
 
-    static void noIndex(SkipQuadtree tree, String what, Call call) {
-        refused(tree, what, "IndexOutOfBoundsException", call);
-    }
-
-    static void badArgument(SkipQuadtree tree, String what, Call call) {
-        refused(tree, what, "IllegalArgumentException", call);
-    }
-
-    static void badState(SkipQuadtree tree, String what, Call call) {
-        refused(tree, what, "IllegalStateException", call);
-    }
-
-    /** A call that throws must also leave the state as it is. */
-    private static void refused(SkipQuadtree tree, String what, String name, Call call) {
-        long before = tree.digest();
-        same(what, told(call), "throws." + name);
-        same(what + ", the digest after it", Long.toString(tree.digest()), Long.toString(before));
+    static void due(String what, long want, long got) {
+        same(what, Long.toString(got), Long.toString(want));
     }
 
     /** Appends a text to the script. */
