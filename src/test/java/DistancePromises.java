@@ -19,8 +19,10 @@ final class DistancePromises {
         Promise.test(15, "- `x`: 0 to 63", DistancePromises::openXs);
         Promise.test(15, "- `y`: 0 to 63", DistancePromises::openYs);
         Promise.test(15, "Returns the number of points that exist.", DistancePromises::openAnswers);
-        Promise.test(15, "Throws `IndexOutOfBoundsException` if there is no such cursor", DistancePromises::openOutside);
-        Promise.test(15, "Throws `IllegalArgumentException` if x or y is out of range", DistancePromises::openArguments);
+        Promise.test(15, "Throws `IndexOutOfBoundsException` if there is no such cursor",
+            DistancePromises::openOutside);
+        Promise.test(15, "Throws `IllegalArgumentException` if x or y is out of range",
+            DistancePromises::openArguments);
         Promise.test(15, Promise.ALL_EXCEPTIONS, DistancePromises::openOrder);
         Promise.test(15, "There are four cursors, numbered from 0.", DistancePromises::fourCursors);
     }
@@ -32,39 +34,50 @@ final class DistancePromises {
         Promise.test(16, "- `cursor`: 0 to 3", DistancePromises::nextCursors);
         Promise.test(16, "Returns the id of the point; NONE if there is none (then the last pair stays).",
             DistancePromises::nextOfNone);
-        Promise.test(16, "Throws `IndexOutOfBoundsException` if there is no such cursor", DistancePromises::nextOutside);
+        Promise.test(16, "Throws `IndexOutOfBoundsException` if there is no such cursor",
+            DistancePromises::nextOutside);
         Promise.test(16, Promise.NONE_LAST, DistancePromises::nextNoneLast);
-        Promise.test(16, "The pairs of a cursor are, for all points that exist, the distances of the center and the point, "
+        Promise.test(16,
+            "The pairs of a cursor are, for all points that exist, the distances of the center and the point, "
             + "each with the id; they are ordered by the distance, and for equal distances by the id.",
             DistancePromises::orderOfPairs);
-        Promise.test(16, "The next point of a cursor is that of the least pair which is greater than the last pair (the "
+        Promise.test(16,
+            "The next point of a cursor is that of the least pair which is greater than the last pair (the "
             + "least pair of all, if there is none).", DistancePromises::nextAfterChanges);
     }
 
     private static void cursor() {
         Promise.test(17, "Returns a value of a cursor.", DistancePromises::cursorAnswers);
         Promise.test(17, "- `cursor`: 0 to 3", DistancePromises::cursorCursors);
-        Promise.test(17, "- `what`: 0 and 1 x and y of the center, 2 distance and 3 id of the last pair (NONE without one), "
-            + "4 number of points whose pairs are greater than the last pair (all points without one), 5 number of nodes of "
-            + "level 0 whose distance to the center is at most the distance of the last pair (0 without one)",
+        Promise.test(17,
+            "- `what`: 0 and 1 x and y of the center, 2 distance and 3 id of the last pair (NONE without one), "
+            + "4 number of points whose pairs are greater than the last pair (all points without one), "
+            + "5 number of nodes of level 0 whose distance to the center is at most the distance of the last pair "
+            + "(0 without one)",
             DistancePromises::cursorWhats);
         Promise.test(17, "Returns that value.", DistancePromises::leastPair);
-        Promise.test(17, "Throws `IndexOutOfBoundsException` if there is no such cursor", DistancePromises::cursorOutside);
-        Promise.test(17, "Throws `IllegalArgumentException` if what is out of range", DistancePromises::cursorArguments);
+        Promise.test(17, "Throws `IndexOutOfBoundsException` if there is no such cursor",
+            DistancePromises::cursorOutside);
+        Promise.test(17, "Throws `IllegalArgumentException` if what is out of range",
+            DistancePromises::cursorArguments);
         Promise.test(17, Promise.ALL_EXCEPTIONS, () -> Promise.indexAndWhat("cursor", 4, 5, SkipQuadtree::cursor));
         Promise.test(17, Promise.NONE_LAST, DistancePromises::cursorNoneLast);
-        Promise.test(17, "A cursor has a center, a position ((0, 0) at first), and may have a last pair of a distance and an "
+        Promise.test(17,
+            "A cursor has a center, a position ((0, 0) at first), and may have a last pair of a distance and an "
             + "id (none at first).", DistancePromises::cursorAtFirst);
         Promise.test(17, "4 number of points whose pairs are greater than the last pair (all points without one)",
             DistancePromises::pairsLeft);
-        Promise.test(17, "5 number of nodes of level 0 whose distance to the center is at most the distance of the last pair",
+        Promise.test(17,
+            "5 number of nodes of level 0 whose distance to the center is at most the distance of the last pair",
             DistancePromises::nodesAtJustTheDistance);
-        Promise.test(17, "The distance of a position and a square is the least distance of the position and a position of "
+        Promise.test(17,
+            "The distance of a position and a square is the least distance of the position and a position of "
             + "the square (0 if it contains it).", DistancePromises::distancesToSquares);
     }
 
     private static void nearest() {
-        Promise.test(18, "Returns the id of the point that has a rank among all points, ordered by their distances to a "
+        Promise.test(18,
+            "Returns the id of the point that has a rank among all points, ordered by their distances to a "
             + "position, and for equal distances by their ids.", DistancePromises::ranks);
         Promise.test(18, "- `x`: 0 to 63", DistancePromises::nearestXs);
         Promise.test(18, "- `y`: 0 to 63", DistancePromises::nearestYs);
@@ -73,7 +86,8 @@ final class DistancePromises {
         Promise.test(18, "Throws `IllegalArgumentException` if x or y is out of range, or rank is negative",
             DistancePromises::nearestArguments);
         Promise.test(18, Promise.NONE_LAST, DistancePromises::nearestNoneLast);
-        Promise.test(18, "The distance of two positions is the square of the difference of their x plus the square of that "
+        Promise.test(18,
+            "The distance of two positions is the square of the difference of their x plus the square of that "
             + "of their y.", DistancePromises::distances);
     }
 
@@ -83,16 +97,20 @@ final class DistancePromises {
         Promise.test(19, "- `y0`: 0 to 63", DistancePromises::withinY0s);
         Promise.test(19, "- `x1`: 0 to 63", DistancePromises::withinX1s);
         Promise.test(19, "- `y1`: 0 to 63", DistancePromises::withinY1s);
-        Promise.test(19, "Returns the number; 0 if x1 is less than x0, or y1 less than y0.", DistancePromises::turnedRound);
-        Promise.test(19, "Throws `IllegalArgumentException` if an argument is out of range", DistancePromises::withinArguments);
+        Promise.test(19, "Returns the number; 0 if x1 is less than x0, or y1 less than y0.",
+            DistancePromises::turnedRound);
+        Promise.test(19, "Throws `IllegalArgumentException` if an argument is out of range",
+            DistancePromises::withinArguments);
     }
 
     private static void closest() {
-        Promise.test(20, "Returns a part of the closest pair of points: the one with the least distance, of several the one "
+        Promise.test(20,
+            "Returns a part of the closest pair of points: the one with the least distance, of several the one "
             + "with the lowest id, and then with the lowest other id.", DistancePromises::closestPairs);
         Promise.test(20, "- `what`: 0 distance, 1 lower id, 2 higher id", DistancePromises::closestWhats);
         Promise.test(20, "Returns that part; NONE with fewer than two points.", DistancePromises::closestOfFew);
-        Promise.test(20, "Throws `IllegalArgumentException` if what is out of range", DistancePromises::closestArguments);
+        Promise.test(20, "Throws `IllegalArgumentException` if what is out of range",
+            DistancePromises::closestArguments);
         Promise.test(20, Promise.NONE_LAST, DistancePromises::closestNoneLast);
     }
 
@@ -199,7 +217,8 @@ final class DistancePromises {
     private static void openArguments() {
         Promise.refused("open(1, 64, 64)", Promise.BAD_ARGUMENT, t -> t.open(1, 64, 64));
         Promise.refused("open(1, 0, -1)", Promise.BAD_ARGUMENT, t -> t.open(1, 0, -1));
-        Promise.outcome(SkipQuadtree::new, "open(0, -1, 0) without points", Promise.BAD_ARGUMENT, t -> t.open(0, -1, 0));
+        Promise.outcome(SkipQuadtree::new, "open(0, -1, 0) without points", Promise.BAD_ARGUMENT,
+            t -> t.open(0, -1, 0));
     }
 
     private static void openOrder() {
@@ -207,7 +226,8 @@ final class DistancePromises {
             for (int x : new int[] {-1, 0, 63, 64}) {
                 for (int y : new int[] {-1, 0, 63, 64}) {
                     boolean bad = x < 0 || x > 63 || y < 0 || y > 63;
-                    String due = cursor < 0 || cursor > 3 ? Promise.NO_INDEX : bad ? Promise.BAD_ARGUMENT : Promise.FINE;
+                    String due = bad ? Promise.BAD_ARGUMENT : Promise.FINE;
+                    due = cursor < 0 || cursor > 3 ? Promise.NO_INDEX : due;
                     Promise.refused("open(" + cursor + ", " + x + ", " + y + ")", due, t -> t.open(cursor, x, y));
                 }
             }
@@ -411,18 +431,19 @@ final class DistancePromises {
 
     private static void pairsLeft() {
         SkipQuadtree t = new SkipQuadtree();
-        t.scatter(0, 24, 64, 31);
-        t.open(0, 30, 30);
+        t.scatter(0, 24, 8, 31);
         for (int left = 24; left > 0; left--) {
-            Check.due("pairs left", left, t.cursor(0, 4));
-            t.next(0);
+            Check.due("pairs left", left, t.cursor(3, 4));
+            t.next(3);
         }
-        Check.due("pairs left at the end", 0, t.cursor(0, 4));
-        t.scatter(0, 24, 1, 0);
-        Check.due("pairs left, with all points elsewhere", 900 + 900 > t.cursor(0, 2) ? 24 : 0, t.cursor(0, 4));
-        t.remove(0);
-        t.open(0, 30, 30);
-        Check.due("pairs without a last pair", 23, t.cursor(0, 4));
+        Check.due("pairs left at the end", 0, t.cursor(3, 4));
+        t.move(5, 63, 63);
+        Check.due("pairs left, with one point far away", 1, t.cursor(3, 4));
+        t.move(5, 0, 0);
+        Check.due("pairs left, with that point at the center", 0, t.cursor(3, 4));
+        t.remove(5);
+        t.open(3, 0, 0);
+        Check.due("pairs without a last pair", 23, t.cursor(3, 4));
     }
 
     /** The node (16, 16) of 4 is 9 away from each center; the last pair is once 8 away, then 9 or more. */
@@ -466,7 +487,8 @@ final class DistancePromises {
             int nodes = t.level(0, 1);
             int due = 0;
             for (int index = 0; index < nodes; index++) {
-                due += leastDistance(t.node(0, index, 0), t.node(0, index, 1), t.node(0, index, 2), x, y) <= reach ? 1 : 0;
+                int least = leastDistance(t.node(0, index, 0), t.node(0, index, 1), t.node(0, index, 2), x, y);
+                due += least <= reach ? 1 : 0;
             }
             Check.due("nodes within " + reach + " of (" + x + ", " + y + ")", due, t.cursor(k % 4, 5));
         }
@@ -545,7 +567,8 @@ final class DistancePromises {
             for (int y : new int[] {-1, 0, 63, 64}) {
                 for (int rank : new int[] {-1, 0, 24}) {
                     boolean bad = x < 0 || x > 63 || y < 0 || y > 63 || rank < 0;
-                    Promise.refused("nearest(" + x + ", " + y + ", " + rank + ")", bad ? Promise.BAD_ARGUMENT : Promise.FINE,
+                    Promise.refused("nearest(" + x + ", " + y + ", " + rank + ")",
+                        bad ? Promise.BAD_ARGUMENT : Promise.FINE,
                         t -> t.nearest(x, y, rank));
                 }
             }

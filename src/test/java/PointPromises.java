@@ -38,24 +38,28 @@ final class PointPromises {
         Promise.test(2, "Throws `IllegalStateException` if the point exists already", PointPromises::addTwice);
         Promise.test(2, Promise.ALL_EXCEPTIONS, PointPromises::addOrder);
         Promise.test(2, "There are at most 24 points, with the ids 0 to 23", PointPromises::addAll);
-        Promise.test(2, "a position, x and y from 0 to 63, and a velocity, u and v from -9 to 9", PointPromises::corners);
+        Promise.test(2, "a position, x and y from 0 to 63, and a velocity, u and v from -9 to 9",
+            PointPromises::corners);
         Promise.test(2, "Several points may have the same position.", PointPromises::addAllTogether);
     }
 
     private static void move() {
-        Promise.test(3, "Moves a point to another position, or to the same; its velocity stays.", PointPromises::moveStands);
+        Promise.test(3, "Moves a point to another position, or to the same; its velocity stays.",
+            PointPromises::moveStands);
         Promise.test(3, "Undoable.", PointPromises::moveUndoable);
         Promise.test(3, "- `id`: 0 to 23", PointPromises::moveIds);
         Promise.test(3, "- `x`: 0 to 63", PointPromises::moveXs);
         Promise.test(3, "- `y`: 0 to 63", PointPromises::moveYs);
         Promise.test(3, "Returns the number of touched squares.", PointPromises::moveTouches);
+        Promise.test(3, "Returns the number of touched squares.", PointPromises::moveAmongMostNodes);
         Promise.test(3, "Throws `IndexOutOfBoundsException` if id is out of range", PointPromises::moveBeyondAll);
         Promise.test(3, "Throws `IllegalArgumentException` if x or y is out of range", PointPromises::moveArguments);
         Promise.test(3, "Throws `IllegalStateException` if there is no such point", PointPromises::moveNothing);
         Promise.test(3, Promise.ALL_EXCEPTIONS, PointPromises::moveOrder);
         Promise.test(3, "A change touches a square in a level if the square is a node of this level before the change, "
             + "and is none after it, or the other way round.", PointPromises::touchBothWays);
-        Promise.test(3, "The touched squares of a change are counted for all levels together.", PointPromises::touchAllLevels);
+        Promise.test(3, "The touched squares of a change are counted for all levels together.",
+            PointPromises::touchAllLevels);
     }
 
     private static void remove() {
@@ -76,7 +80,8 @@ final class PointPromises {
         Promise.test(5, "Returns 10 * (absolute value of the previous u) + (absolute value of the previous v).",
             PointPromises::velocityAnswers);
         Promise.test(5, "Throws `IndexOutOfBoundsException` if id is out of range", PointPromises::velocityBeyondAll);
-        Promise.test(5, "Throws `IllegalArgumentException` if u or v is out of range", PointPromises::velocityArguments);
+        Promise.test(5, "Throws `IllegalArgumentException` if u or v is out of range",
+            PointPromises::velocityArguments);
         Promise.test(5, "Throws `IllegalStateException` if there is no such point", PointPromises::velocityOfNothing);
         Promise.test(5, Promise.ALL_EXCEPTIONS, PointPromises::velocityOrder);
     }
@@ -99,10 +104,12 @@ final class PointPromises {
     }
 
     private static void scatter() {
-        Promise.test(7, "Adds points at random: a number s is at first the seed; for the ids from first on, as many as told, "
+        Promise.test(7,
+            "Adds points at random: a number s is at first the seed; for the ids from first on, as many as told, "
             + "s becomes (1103515245 * s + 12345) modulo 2147483648 for x, and then in the same way for y; each is "
             + "(s / 65536, rounded down) modulo (size of the area).", PointPromises::scatterPlaces);
-        Promise.test(7, "Points that exist are moved there instead, and keep their velocities.", PointPromises::scatterMoves);
+        Promise.test(7, "Points that exist are moved there instead, and keep their velocities.",
+            PointPromises::scatterMoves);
         Promise.test(7, "Undoable.", PointPromises::scatterUndoable);
         Promise.test(7, "- `first`: 0 to 23", PointPromises::scatterFirsts);
         Promise.test(7, "- `many`: 1 to 24 - first", PointPromises::scatterManys);
@@ -284,7 +291,8 @@ final class PointPromises {
         for (int id = 0; id < 24; id++) {
             duePoint(t, id, 1, 2 * id, 63 - id, 0, 0);
             int asked = id;
-            Promise.outcome(Promise::crowd, "add(" + id + ", 0, 0) beside all", Promise.BAD_STATE, s -> s.add(asked, 0, 0));
+            Promise.outcome(Promise::crowd, "add(" + id + ", 0, 0) beside all", Promise.BAD_STATE,
+                s -> s.add(asked, 0, 0));
         }
     }
 
@@ -373,6 +381,22 @@ final class PointPromises {
         Check.due("move away from its position", 0, t.move(3, 40, 10));
     }
 
+    /** The most nodes that a level can have, 24, of which the last one ends or begins. */
+    private static void moveAmongMostNodes() {
+        SkipQuadtree t = new SkipQuadtree();
+        for (int id = 0; id < 23; id++) {
+            t.add(id, id == 20 ? 23 : id == 21 ? 20 : id, 0);
+        }
+        t.add(23, 24, 0);
+        Check.due("nodes", 24, t.level(0, 1));
+        Check.due("a before the last node", 22, t.node(0, 23, 0));
+        Check.due("move of 20 to 21", 2, t.move(20, 21, 0));
+        Check.due("a of the last node then", 20, t.node(0, 23, 0));
+        Check.due("wouldTouch of the way back", 2, t.wouldTouch(20, 23, 0));
+        Check.due("move of 20 back", 2, t.move(20, 23, 0));
+        Check.due("nodes again", 24, t.level(0, 1));
+    }
+
     private static void moveBeyondAll() {
         Promise.refused("move(24, 64, 64)", Promise.NO_INDEX, t -> t.move(24, 64, 64));
         Promise.refused("move(-1, -1, -1)", Promise.NO_INDEX, t -> t.move(-1, -1, -1));
@@ -389,7 +413,8 @@ final class PointPromises {
     private static void moveNothing() {
         for (int id : new int[] {0, 1, 2, 3, 16, 17, 18, 19, 20, 21, 22, 23}) {
             Promise.refused("move(" + id + ", 0, 0)", Promise.BAD_STATE, t -> t.move(id, 0, 0));
-            Promise.outcome(SkipQuadtree::new, "move(" + id + ", 0, 0) of none", Promise.BAD_STATE, t -> t.move(id, 0, 0));
+            Promise.outcome(SkipQuadtree::new, "move(" + id + ", 0, 0) of none", Promise.BAD_STATE,
+                t -> t.move(id, 0, 0));
         }
         SkipQuadtree t = Promise.busy();
         t.remove(7);
@@ -516,7 +541,8 @@ final class PointPromises {
     }
 
     private static void velocityIds() {
-        Promise.range(Promise::crowd, "setVelocity of the id", 0, 23, Promise.NO_INDEX, (t, id) -> t.setVelocity(id, 1, 2));
+        Promise.range(Promise::crowd, "setVelocity of the id", 0, 23, Promise.NO_INDEX,
+            (t, id) -> t.setVelocity(id, 1, 2));
         for (int id : new int[] {0, 23}) {
             SkipQuadtree t = Promise.crowd();
             t.setVelocity(id, 1, 2);
@@ -526,7 +552,8 @@ final class PointPromises {
     }
 
     private static void velocityUs() {
-        Promise.range(Promise::busy, "setVelocity with u", -9, 9, Promise.BAD_ARGUMENT, (t, u) -> t.setVelocity(7, u, 1));
+        Promise.range(Promise::busy, "setVelocity with u", -9, 9, Promise.BAD_ARGUMENT,
+            (t, u) -> t.setVelocity(7, u, 1));
         for (int u = -9; u <= 9; u++) {
             SkipQuadtree t = Promise.busy();
             t.setVelocity(7, u, 1);
@@ -536,7 +563,8 @@ final class PointPromises {
     }
 
     private static void velocityVs() {
-        Promise.range(Promise::busy, "setVelocity with v", -9, 9, Promise.BAD_ARGUMENT, (t, v) -> t.setVelocity(7, 1, v));
+        Promise.range(Promise::busy, "setVelocity with v", -9, 9, Promise.BAD_ARGUMENT,
+            (t, v) -> t.setVelocity(7, 1, v));
         for (int v = -9; v <= 9; v++) {
             SkipQuadtree t = Promise.busy();
             t.setVelocity(7, 1, v);
@@ -573,7 +601,8 @@ final class PointPromises {
         for (int id : new int[] {0, 3, 16, 23}) {
             Promise.refused("setVelocity(" + id + ", 0, 0)", Promise.BAD_STATE, t -> t.setVelocity(id, 0, 0));
         }
-        Promise.outcome(SkipQuadtree::new, "setVelocity(5, 9, 9) of none", Promise.BAD_STATE, t -> t.setVelocity(5, 9, 9));
+        Promise.outcome(SkipQuadtree::new, "setVelocity(5, 9, 9) of none", Promise.BAD_STATE,
+            t -> t.setVelocity(5, 9, 9));
     }
 
     private static void velocityOrder() {
@@ -636,7 +665,8 @@ final class PointPromises {
         high.add(15, 1, 0);
         high.setVelocity(15, 2, 0);
         high.setVelocity(7, 2, 0);
-        Check.due("tick(50), each with two squares in four levels but where both lie apart", touchedByPair(), high.tick(50));
+        Check.due("tick(50), each with two squares in four levels but where both lie apart", touchedByPair(),
+            high.tick(50));
     }
 
     /** The two points 2 u - 1 apart lie in one square of 2, or, behind the reflection of one, in a greater one. */
@@ -824,7 +854,8 @@ final class PointPromises {
     }
 
     private static void scatterFirsts() {
-        Promise.range(Promise::busy, "scatter from the id", 0, 23, Promise.NO_INDEX, (t, id) -> t.scatter(id, 1, 64, 5));
+        Promise.range(Promise::busy, "scatter from the id", 0, 23, Promise.NO_INDEX,
+            (t, id) -> t.scatter(id, 1, 64, 5));
         for (int id : new int[] {0, 23}) {
             SkipQuadtree t = new SkipQuadtree();
             Check.due("scatter(" + id + ", 1, 1, 5)", 1, t.scatter(id, 1, 1, 5));
@@ -837,12 +868,14 @@ final class PointPromises {
             int from = first;
             Promise.range(Promise::busy, "scatter from " + first + ", as many as", 1, 24 - first, Promise.BAD_ARGUMENT,
                 (t, many) -> t.scatter(from, many, 64, 5));
-            Check.due("scatter of all from " + first, 24 - first, () -> new SkipQuadtree().scatter(from, 24 - from, 64, 5));
+            Check.due("scatter of all from " + first, 24 - first,
+                () -> new SkipQuadtree().scatter(from, 24 - from, 64, 5));
         }
     }
 
     private static void scatterAreas() {
-        Promise.range(Promise::busy, "scatter in an area of", 1, 64, Promise.BAD_ARGUMENT, (t, area) -> t.scatter(0, 24, area, 5));
+        Promise.range(Promise::busy, "scatter in an area of", 1, 64, Promise.BAD_ARGUMENT,
+            (t, area) -> t.scatter(0, 24, area, 5));
         for (int area = 1; area <= 64; area++) {
             int greatest = 0;
             for (int seed = 0; seed < 20; seed++) {
@@ -893,9 +926,12 @@ final class PointPromises {
             for (int many : ends[1]) {
                 for (int area : ends[2]) {
                     for (int seed : ends[3]) {
-                        boolean bad = many < 1 || many > 24 - first || area < 1 || area > 64 || seed < 0 || seed > 999999;
-                        String due = first < 0 || first > 23 ? Promise.NO_INDEX : bad ? Promise.BAD_ARGUMENT : Promise.FINE;
-                        Promise.outcome(Promise::busy, "scatter(" + first + ", " + many + ", " + area + ", " + seed + ")", due,
+                        boolean fine = 1 <= many && many <= 24 - first && 1 <= area && area <= 64
+                            && 0 <= seed && seed <= 999999;
+                        String due = fine ? Promise.FINE : Promise.BAD_ARGUMENT;
+                        due = first < 0 || first > 23 ? Promise.NO_INDEX : due;
+                        Promise.outcome(Promise::busy,
+                            "scatter(" + first + ", " + many + ", " + area + ", " + seed + ")", due,
                             t -> t.scatter(first, many, area, seed));
                     }
                 }
@@ -925,7 +961,8 @@ final class PointPromises {
 
     private static void pointWhats() {
         Promise.range(Promise::busy, "point, what", 0, 5, Promise.BAD_ARGUMENT, (t, what) -> t.point(7, what));
-        Promise.range(SkipQuadtree::new, "point of none, what", 0, 5, Promise.BAD_ARGUMENT, (t, what) -> t.point(7, what));
+        Promise.range(SkipQuadtree::new, "point of none, what", 0, 5, Promise.BAD_ARGUMENT,
+            (t, what) -> t.point(7, what));
     }
 
     private static void pointOfNothing() {

@@ -22,7 +22,8 @@ final class Promise {
     static final String BAD_STATE = "throws.IllegalStateException";
     static final String FINE = "an answer";
 
-    static final String ALL_EXCEPTIONS = "If several exceptions of a method apply, the one that is listed first is thrown.";
+    static final String ALL_EXCEPTIONS =
+        "If several exceptions of a method apply, the one that is listed first is thrown.";
     static final String NONE_LAST = "NONE is returned only if no exception applies.";
 
     private static final List<Name> NAMES = new ArrayList<>();
@@ -33,7 +34,10 @@ final class Promise {
     static void test(int promise, String sentence, Runnable steps) {
         NAMES.add(new Name(promise, sentence));
         Check.entitle("promise " + promise + ", \"" + sentence + "\": ");
-        steps.run();
+        Check.due("the test itself", 0, () -> {
+            steps.run();
+            return 0;
+        });
         Check.entitle("");
     }
 

@@ -6,13 +6,14 @@ import java.util.List;
 import java.util.regex.Matcher;
 import java.util.regex.Pattern;
 
-/** Runs the tests that are named by promises and sentences, then looks whether each sentence of the document has one. */
+/** Runs the tests that are named by promises and sentences; then each sentence of the document must have one. */
 public final class PromisesTest {
     private static final Path DOCUMENT = Path.of("../shared/DOC.md");
     /** The number of the Description, whose sentences may be tested under any promise. */
     private static final int DESCRIPTION = 0;
     /** What is in the Description and promises nothing: headings, and the words before a list. */
-    private static final Pattern NO_SENTENCE = Pattern.compile("[A-Z ]+|The constants:|The constructor and the methods follow.*");
+    private static final Pattern NO_SENTENCE =
+        Pattern.compile("[A-Z ]+|The constants:|The constructor and the methods follow.*");
 
     public static void main(String[] args) throws IOException {
         PointPromises.tests();
@@ -34,7 +35,8 @@ public final class PromisesTest {
                 boolean itsPromise = sentence.promise() == DESCRIPTION || sentence.promise() == test.promise();
                 tested |= itsPromise && sentence.sentence().contains(test.sentence());
             }
-            Check.same("promise " + sentence.promise() + ", \"" + sentence.sentence() + "\"", tested ? "a test" : "no test",
+            Check.same("promise " + sentence.promise() + ", \"" + sentence.sentence() + "\"",
+                tested ? "a test" : "no test",
                 "a test");
         }
     }

@@ -44,12 +44,15 @@ final class ScriptPromises {
             ScriptPromises::leastAndGreatestRun);
         Promise.test(23, "if it has a fault, nothing is done", ScriptPromises::faultDoesNothing);
         Promise.test(23, "otherwise the commands are carried out in their order", ScriptPromises::orderOfCommands);
-        Promise.test(23, "until one of them would throw an exception, which is not thrown", ScriptPromises::stoppedRuns);
-        Promise.test(23, "A run saves one state, the one from before it; its commands save none.", ScriptPromises::runSavesOne);
+        Promise.test(23, "until one of them would throw an exception, which is not thrown",
+            ScriptPromises::stoppedRuns);
+        Promise.test(23, "A run saves one state, the one from before it; its commands save none.",
+            ScriptPromises::runSavesOne);
     }
 
     private static void scripts() {
-        Promise.test(23, "It is a sequence of commands, each of which is a word of letters a to z, followed by its numbers, "
+        Promise.test(23,
+            "It is a sequence of commands, each of which is a word of letters a to z, followed by its numbers, "
             + "each with at least one space (byte 32) in front, and a semicolon.", ScriptPromises::commands);
         Promise.test(23, "A number has one or two digits, and may have a minus sign directly in front.",
             ScriptPromises::numbers);
@@ -74,14 +77,16 @@ final class ScriptPromises {
     }
 
     private static void undo() {
-        Promise.test(25, "Restores the latest saved state and removes it from the undo stack.", ScriptPromises::undoStands);
+        Promise.test(25, "Restores the latest saved state and removes it from the undo stack.",
+            ScriptPromises::undoStands);
         Promise.test(25, "Returns the number of states that are left on the stack.", ScriptPromises::undoAnswers);
         Promise.test(25, "Throws `IllegalStateException` if the stack is empty", ScriptPromises::undoOfNone);
         Promise.test(25, "A call that throws an exception changes nothing.", ScriptPromises::refusedCallsChangeNothing);
     }
 
     private static void saves() {
-        Promise.test(25, "Every method that is marked \"undoable\" saves the whole state but the script on an undo stack "
+        Promise.test(25,
+            "Every method that is marked \"undoable\" saves the whole state but the script on an undo stack "
             + "when it ends normally", ScriptPromises::wholeStateIsSaved);
         Promise.test(25, "the whole state but the script", ScriptPromises::scriptIsNotSaved);
         Promise.test(25, "also if it changes nothing", ScriptPromises::savesWithoutChange);
@@ -95,8 +100,10 @@ final class ScriptPromises {
         Promise.test(26, "It starts with h = 19606.", ScriptPromises::digestOfNew);
         Promise.test(26, "For each of the following values v, in this order, h becomes 31 * h + v (long arithmetic, "
             + "overflow wraps).", ScriptPromises::digestOfOrder);
-        Promise.test(26, "the number of states on the undo stack, the length of the script, time(); for each id point() of "
-            + "0 to 5; for each level level() of 0 to 4, and for each node, in order, node() of 0 to 5 and child() of 0 to 3;",
+        Promise.test(26,
+            "the number of states on the undo stack, the length of the script, time(); for each id point() of "
+            + "0 to 5; for each level level() of 0 to 4, and for each node, in order, node() of 0 to 5 and "
+            + "child() of 0 to 3;",
             ScriptPromises::digestOfLevels);
         Promise.test(26, "worst(true), worst(false); for each cursor cursor() of 0 to 5; closest() of 0 to 2.",
             ScriptPromises::digestOfCursors);
@@ -129,7 +136,8 @@ final class ScriptPromises {
         Check.due("run() of another byte", MARK - 15, t.run());
         SkipQuadtree busy = Promise.busy();
         busy.type(' ');
-        Check.same("all values behind type", Promise.values(busy).toString(), Promise.values(Promise.busy()).toString());
+        Check.same("all values behind type", Promise.values(busy).toString(),
+            Promise.values(Promise.busy()).toString());
     }
 
     private static void typeValues() {
@@ -171,7 +179,8 @@ final class ScriptPromises {
     private static void typeIntoFull() {
         Promise.outcome(() -> typed(119), "type(59) as the last", Promise.FINE, t -> t.type(';'));
         for (int value : new int[] {0, 32, 59, 127}) {
-            Promise.outcome(() -> typed(120), "type(" + value + ") into a full script", Promise.BAD_STATE, t -> t.type(value));
+            Promise.outcome(() -> typed(120), "type(" + value + ") into a full script", Promise.BAD_STATE,
+                t -> t.type(value));
         }
         SkipQuadtree t = typed(120);
         Check.same("type(32)", Check.told(() -> t.type(32)), Promise.BAD_STATE);
@@ -255,7 +264,8 @@ final class ScriptPromises {
     }
 
     private static void runUndoable() {
-        String[] fine = {"", " ", "tick 1;", "add 20 1 2;drop 7;speed 4 1 1;tick 50;", "add 7 1 1;", "tick 0;", "drop 7;drop 7;"};
+        String[] fine = {"", " ", "tick 1;", "add 20 1 2;drop 7;speed 4 1 1;tick 50;", "add 7 1 1;", "tick 0;",
+            "drop 7;drop 7;"};
         for (String text : fine) {
             Promise.undoable("run of \"" + text + "\"", t -> withScript(t, text));
         }
@@ -296,7 +306,8 @@ final class ScriptPromises {
 
     private static void orderOfCommands() {
         SkipQuadtree t = new SkipQuadtree();
-        Check.due("run()", 9, () -> Check.run(t, "add 0 10 20;speed 0 -3 9;move 0 11 21;tick 2;add 1 3 4;drop 1;add 1 5 6;"
+        Check.due("run()", 9,
+            () -> Check.run(t, "add 0 10 20;speed 0 -3 9;move 0 11 21;tick 2;add 1 3 4;drop 1;add 1 5 6;"
             + "move 1 7 8;speed 0 1 2;"));
         int[] first = {1, 5, 39, 1, 2};
         int[] second = {1, 7, 8, 0, 0};
@@ -310,10 +321,10 @@ final class ScriptPromises {
 
     private static void stoppedRuns() {
         String[] stopping = {"add 24 1 1;", "add -1 1 1;", "add 2 64 1;", "add 2 -1 1;", "add 2 1 -1;", "add 2 1 64;",
-            "add 1 1 1;", "move 24 1 1;", "move -1 1 1;", "move 1 64 1;", "move 1 -1 1;", "move 1 1 64;", "move 1 1 -1;",
-            "move 2 1 1;", "drop 24;", "drop -1;", "drop 2;", "speed 24 1 1;", "speed -1 1 1;", "speed 1 10 1;",
-            "speed 1 -10 1;", "speed 1 1 10;", "speed 1 1 -10;", "speed 2 1 1;", "tick 0;", "tick 51;", "tick -1;", "tick 99;",
-            "tick -99;"};
+            "add 1 1 1;", "move 24 1 1;", "move -1 1 1;", "move 1 64 1;", "move 1 -1 1;", "move 1 1 64;",
+            "move 1 1 -1;", "move 2 1 1;", "drop 24;", "drop -1;", "drop 2;", "speed 24 1 1;", "speed -1 1 1;",
+            "speed 1 10 1;", "speed 1 -10 1;", "speed 1 1 10;", "speed 1 1 -10;", "speed 2 1 1;", "tick 0;",
+            "tick 51;", "tick -1;", "tick 99;", "tick -99;"};
         for (String command : stopping) {
             SkipQuadtree got = new SkipQuadtree();
             SkipQuadtree want = new SkipQuadtree();
@@ -425,10 +436,14 @@ final class ScriptPromises {
             t.clearScript();
             Check.due("the digest behind " + commands[k], want.digest(), t.digest());
         }
-        for (String word : new String[] {"remove 5;", "velocity 5 1 1;", "setvelocity 5 1 1;", "scatter 0 1 1 1;", "undo;",
-            "run;", "next 0;", "ticks 1;", "Add 5 1 1;", "ADD 5 1 1;", "adD 5 1 1;"}) {
-            Check.same("run of " + word + " has a fault", Check.run(new SkipQuadtree(), word) <= MARK ? "yes" : "no", "yes");
-        }
+        dueFault("remove 5;", 0);
+        dueFault("velocity 5 1 1;", 0);
+        dueFault("setvelocity 5 1 1;", 0);
+        dueFault("scatter 0 1 1 1;", 0);
+        dueFault("undo;", 0);
+        dueFault("run;", 0);
+        dueFault("Add 5 1 1;", 0);
+        dueFault("adD 5 1 1;", 0);
     }
 
     private static void call(SkipQuadtree tree, int number) {
@@ -531,6 +546,17 @@ final class ScriptPromises {
             dueFault("tick 1; ad" + end, 8);
             dueFault("zzz" + end, 0);
             dueFault("addd" + end, 0);
+        }
+        for (String later : new String[] {"", ";", "x", " x", "tick", "tick 1;", " ; ;", "add 1 2;"}) {
+            dueFault("tick;" + later, 4);
+            dueFault("tick ;" + later, 5);
+            dueFault("tick -;" + later, 6);
+            dueFault("tick 123;" + later, 7);
+            dueFault("add 1;" + later, 5);
+            dueFault("add 1 2;" + later, 7);
+            dueFault("speed 1 2 ;" + later, 10);
+            dueFault("tick 1,;" + later, 6);
+            dueFault("tick 1;;" + later, 7);
         }
         dueFault("add!", 3);
         dueFault("addA 1 1;", 3);
@@ -664,7 +690,8 @@ final class ScriptPromises {
             t -> t.move(-1, 0, 0), t -> t.move(4, 0, -1), t -> t.move(16, 0, 0), t -> t.remove(24), t -> t.remove(16),
             t -> t.setVelocity(24, 0, 0), t -> t.setVelocity(4, 10, 0), t -> t.setVelocity(16, 1, 1), t -> t.tick(0),
             t -> t.tick(51), t -> t.scatter(24, 1, 1, 1), t -> t.scatter(0, 25, 1, 1), t -> t.scatter(0, 24, 65, 1),
-            t -> t.scatter(0, 24, 64, -1), t -> t.point(24, 0), t -> t.point(0, 6), t -> t.level(5, 0), t -> t.level(0, 5),
+            t -> t.scatter(0, 24, 64, -1), t -> t.point(24, 0), t -> t.point(0, 6), t -> t.level(5, 0),
+            t -> t.level(0, 5),
             t -> t.node(0, 24, 0), t -> t.node(0, 0, 6), t -> t.child(5, 0, 0), t -> t.child(0, 0, 4),
             t -> t.search(0, 64, true, 0), t -> t.search(0, 0, true, 3), t -> t.wouldTouch(24, 0, 0),
             t -> t.wouldTouch(4, 64, 0), t -> t.wouldTouch(16, 0, 0), t -> t.open(4, 0, 0), t -> t.open(0, 64, 0),

@@ -20,24 +20,28 @@ final class SquarePromises {
     private static void level() {
         Promise.test(9, "Returns a count of a level.", SquarePromises::levelsOfSample);
         Promise.test(9, "- `level`: 0 to 4", SquarePromises::levelLevels);
-        Promise.test(9, "- `what`: 0 points of its set, 1 nodes, 2 greatest depth of a node, 3 positions that are children, "
+        Promise.test(9,
+            "- `what`: 0 points of its set, 1 nodes, 2 greatest depth of a node, 3 positions that are children, "
             + "4 different positions of its points", SquarePromises::levelWhats);
         Promise.test(9, "Returns the count.", SquarePromises::leastAndGreatestCounts);
         Promise.test(9, "Throws `IndexOutOfBoundsException` if there is no such level", SquarePromises::levelOutside);
         Promise.test(9, "Throws `IllegalArgumentException` if what is out of range", SquarePromises::levelArguments);
         Promise.test(9, Promise.ALL_EXCEPTIONS, () -> Promise.indexAndWhat("level", 5, 4, SkipQuadtree::level));
-        Promise.test(9, "There are the levels 0 to 4; the set of a level j consists of the points that exist and have a "
+        Promise.test(9,
+            "There are the levels 0 to 4; the set of a level j consists of the points that exist and have a "
             + "height of at least j.", SquarePromises::sets);
     }
 
     private static void node() {
         Promise.test(10, "Returns a value of a node of a level.", SquarePromises::nodesOfSample);
         Promise.test(10, "- `level`: 0 to 4", SquarePromises::nodeLevels);
-        Promise.test(10, "- `index`: number of the node in the order of the nodes, from 0", SquarePromises::nodeIndices);
+        Promise.test(10, "- `index`: number of the node in the order of the nodes, from 0",
+            SquarePromises::nodeIndices);
         Promise.test(10, "- `what`: 0 a, 1 b, 2 size, 3 depth, 4 points of the set that it contains, 5 quadrants that "
             + "contain points of the set", SquarePromises::nodeWhats);
         Promise.test(10, "Returns that value.", SquarePromises::leastAndGreatestNodes);
-        Promise.test(10, "Throws `IndexOutOfBoundsException` if there is no such level or node", SquarePromises::nodeOutside);
+        Promise.test(10, "Throws `IndexOutOfBoundsException` if there is no such level or node",
+            SquarePromises::nodeOutside);
         Promise.test(10, "Throws `IllegalArgumentException` if what is out of range", SquarePromises::nodeArguments);
         Promise.test(10, Promise.ALL_EXCEPTIONS, SquarePromises::nodeOrder);
     }
@@ -50,7 +54,8 @@ final class SquarePromises {
         Promise.test(10, "or if at least two of its quadrants contain points of the set of the level",
             SquarePromises::twoQuadrants);
         Promise.test(10, "(So each node of a level is also one of the levels below.)", SquarePromises::nodesBelow);
-        Promise.test(10, "The nodes of a level are ordered like this: the whole is the first one; a node is followed by all "
+        Promise.test(10,
+            "The nodes of a level are ordered like this: the whole is the first one; a node is followed by all "
             + "nodes within its quadrant 0, then all within its quadrant 1, and so on (each of these in the same way).",
             SquarePromises::orderOfNodes);
         Promise.test(10, "The depth of a node of a level is the number of other nodes of the level that contain it.",
@@ -64,11 +69,14 @@ final class SquarePromises {
         Promise.test(11, "- `quadrant`: 0 to 3", SquarePromises::childQuadrants);
         Promise.test(11, "Returns the number of the node; 1000 + 64 * y + x for a position; NONE for nothing.",
             SquarePromises::childAnswers);
-        Promise.test(11, "Throws `IndexOutOfBoundsException` if there is no such level or node", SquarePromises::childOutside);
-        Promise.test(11, "Throws `IllegalArgumentException` if quadrant is out of range", SquarePromises::childArguments);
+        Promise.test(11, "Throws `IndexOutOfBoundsException` if there is no such level or node",
+            SquarePromises::childOutside);
+        Promise.test(11, "Throws `IllegalArgumentException` if quadrant is out of range",
+            SquarePromises::childArguments);
         Promise.test(11, Promise.ALL_EXCEPTIONS, SquarePromises::childOrder);
         Promise.test(11, Promise.NONE_LAST, SquarePromises::childNoneLast);
-        Promise.test(11, "It has four quadrants of the size s / 2: 0 with the lesser x and the lesser y, 1 with the greater x "
+        Promise.test(11,
+            "It has four quadrants of the size s / 2: 0 with the lesser x and the lesser y, 1 with the greater x "
             + "and the lesser y, 2 with the lesser x and the greater y, 3 with the greater x and the greater y.",
             SquarePromises::quadrants);
         Promise.test(11, "nothing, if the quadrant contains no point of the set", SquarePromises::childNothing);
@@ -85,24 +93,29 @@ final class SquarePromises {
         Promise.test(12, "- `what`: 0 number of steps, 1 number of the node of level 0 that is found, 2 its size",
             SquarePromises::searchWhats);
         Promise.test(12, "Returns that value.", SquarePromises::leastAndGreatestSearch);
-        Promise.test(12, "Throws `IllegalArgumentException` if an argument is out of range", SquarePromises::searchArguments);
+        Promise.test(12, "Throws `IllegalArgumentException` if an argument is out of range",
+            SquarePromises::searchArguments);
     }
 
     private static void searches() {
         Promise.test(12, "A search for a position begins at a level with the whole.", SquarePromises::beginsWithWhole);
-        Promise.test(12, "In a level it goes on from a node to its child in the quadrant that contains the position, as long "
+        Promise.test(12,
+            "In a level it goes on from a node to its child in the quadrant that contains the position, as long "
             + "as this is a node that contains the position; each time is a step.", SquarePromises::goesOn);
-        Promise.test(12, "Then, if the level is greater than 0, it goes on in the next lower level, from the same square; "
+        Promise.test(12,
+            "Then, if the level is greater than 0, it goes on in the next lower level, from the same square; "
             + "this is a step, too.", SquarePromises::goesDown);
         Promise.test(12, "It ends in level 0, where it finds its last node.", SquarePromises::findsSmallest);
-        Promise.test(12, "A skip search begins at the greatest level whose set is not empty (0, if there is no point), a "
+        Promise.test(12,
+            "A skip search begins at the greatest level whose set is not empty (0, if there is no point), a "
             + "plain search at level 0.", SquarePromises::beginsAtGreatest);
     }
 
     private static void worst() {
         Promise.test(13, "Returns the greatest number of steps of a search for the position of a point.",
             SquarePromises::worstOfAll);
-        Promise.test(13, "- `skip`: true for skip searches, false for plain searches", SquarePromises::worstSkipOrPlain);
+        Promise.test(13, "- `skip`: true for skip searches, false for plain searches",
+            SquarePromises::worstSkipOrPlain);
         Promise.test(13, "Returns the greatest number; 0 without points.", SquarePromises::leastAndGreatestWorst);
     }
 
@@ -113,8 +126,10 @@ final class SquarePromises {
         Promise.test(14, "- `x`: 0 to 63", SquarePromises::wouldTouchXs);
         Promise.test(14, "- `y`: 0 to 63", SquarePromises::wouldTouchYs);
         Promise.test(14, "Returns the number.", SquarePromises::leastAndGreatestTouch);
-        Promise.test(14, "Throws `IndexOutOfBoundsException` if id is out of range", SquarePromises::wouldTouchBeyondAll);
-        Promise.test(14, "Throws `IllegalArgumentException` if x or y is out of range", SquarePromises::wouldTouchArguments);
+        Promise.test(14, "Throws `IndexOutOfBoundsException` if id is out of range",
+            SquarePromises::wouldTouchBeyondAll);
+        Promise.test(14, "Throws `IllegalArgumentException` if x or y is out of range",
+            SquarePromises::wouldTouchArguments);
         Promise.test(14, "Throws `IllegalStateException` if there is no such point", SquarePromises::wouldTouchNothing);
         Promise.test(14, Promise.ALL_EXCEPTIONS, SquarePromises::wouldTouchOrder);
     }
@@ -171,7 +186,8 @@ final class SquarePromises {
     private static void dueNode(SkipQuadtree t, int level, int index, int... wants) {
         for (int what = 0; what < wants.length; what++) {
             int asked = what;
-            Check.due("node(" + level + ", " + index + ", " + what + ")", wants[what], () -> t.node(level, index, asked));
+            Check.due("node(" + level + ", " + index + ", " + what + ")", wants[what],
+                () -> t.node(level, index, asked));
         }
     }
 
@@ -303,7 +319,8 @@ final class SquarePromises {
 
     private static void nodeWhats() {
         Promise.range(Promise::busy, "node, what", 0, 5, Promise.BAD_ARGUMENT, (t, what) -> t.node(0, 0, what));
-        Promise.range(SquarePromises::line, "last node, what", 0, 5, Promise.BAD_ARGUMENT, (t, what) -> t.node(0, 23, what));
+        Promise.range(SquarePromises::line, "last node, what", 0, 5, Promise.BAD_ARGUMENT,
+            (t, what) -> t.node(0, 23, what));
     }
 
     private static void leastAndGreatestNodes() {
@@ -406,7 +423,9 @@ final class SquarePromises {
                     t.level(0, 1));
                 Check.due("quadrants of the whole with points", apart && size == 64 ? 2 : 1, t.node(0, 0, 5));
                 if (greatest >= 2 && greatest < 64) {
-                    dueNode(t, 0, 1, apart ? a : a + first % 2 * half, apart ? b : b + first / 2 * half, greatest, 1, 2, 2);
+                    int left = apart ? a : a + first % 2 * half;
+                    int low = apart ? b : b + first / 2 * half;
+                    dueNode(t, 0, 1, left, low, greatest, 1, 2, 2);
                 }
             }
         }
@@ -496,13 +515,17 @@ final class SquarePromises {
     }
 
     private static void childIndices() {
-        Promise.range(SkipQuadtree::new, "child of the only node", 0, 0, Promise.NO_INDEX, (t, index) -> t.child(0, index, 0));
-        Promise.range(SquarePromises::line, "child of the node", 0, 23, Promise.NO_INDEX, (t, index) -> t.child(0, index, 0));
-        Promise.range(SquarePromises::line, "child of the node", 0, 11, Promise.NO_INDEX, (t, index) -> t.child(1, index, 0));
+        Promise.range(SkipQuadtree::new, "child of the only node", 0, 0, Promise.NO_INDEX,
+            (t, index) -> t.child(0, index, 0));
+        Promise.range(SquarePromises::line, "child of the node", 0, 23, Promise.NO_INDEX,
+            (t, index) -> t.child(0, index, 0));
+        Promise.range(SquarePromises::line, "child of the node", 0, 11, Promise.NO_INDEX,
+            (t, index) -> t.child(1, index, 0));
     }
 
     private static void childQuadrants() {
-        Promise.range(Promise::busy, "child in the quadrant", 0, 3, Promise.BAD_ARGUMENT, (t, part) -> t.child(0, 0, part));
+        Promise.range(Promise::busy, "child in the quadrant", 0, 3, Promise.BAD_ARGUMENT,
+            (t, part) -> t.child(0, 0, part));
         Promise.range(SkipQuadtree::new, "child in the empty quadrant", 0, 3, Promise.BAD_ARGUMENT,
             (t, part) -> t.child(4, 0, part));
     }
@@ -645,7 +668,8 @@ final class SquarePromises {
     }
 
     private static void searchWhats() {
-        Promise.range(Promise::busy, "search, what", 0, 2, Promise.BAD_ARGUMENT, (t, what) -> t.search(5, 5, true, what));
+        Promise.range(Promise::busy, "search, what", 0, 2, Promise.BAD_ARGUMENT,
+            (t, what) -> t.search(5, 5, true, what));
         Promise.range(SkipQuadtree::new, "search without points, what", 0, 2, Promise.BAD_ARGUMENT,
             (t, what) -> t.search(5, 5, false, what));
     }
@@ -666,7 +690,8 @@ final class SquarePromises {
                 for (int what : new int[] {-1, 0, 2, 3}) {
                     boolean bad = x < 0 || x > 63 || y < 0 || y > 63 || what < 0 || what > 2;
                     String due = bad ? Promise.BAD_ARGUMENT : Promise.FINE;
-                    Promise.refused("search(" + x + ", " + y + ", true, " + what + ")", due, t -> t.search(x, y, true, what));
+                    Promise.refused("search(" + x + ", " + y + ", true, " + what + ")", due,
+                        t -> t.search(x, y, true, what));
                 }
             }
         }
@@ -838,7 +863,8 @@ final class SquarePromises {
             for (int place : new int[] {0, 17, 40, 63}) {
                 SkipQuadtree crowd = Promise.crowd();
                 int told = crowd.wouldTouch(id, place, 63 - place);
-                Check.due("move(" + id + ", " + place + ", " + (63 - place) + ")", told, crowd.move(id, place, 63 - place));
+                Check.due("move(" + id + ", " + place + ", " + (63 - place) + ")", told,
+                    crowd.move(id, place, 63 - place));
             }
         }
     }
@@ -850,7 +876,8 @@ final class SquarePromises {
     }
 
     private static void wouldTouchIds() {
-        Promise.range(Promise::crowd, "wouldTouch of the id", 0, 23, Promise.NO_INDEX, (t, id) -> t.wouldTouch(id, 5, 6));
+        Promise.range(Promise::crowd, "wouldTouch of the id", 0, 23, Promise.NO_INDEX,
+            (t, id) -> t.wouldTouch(id, 5, 6));
     }
 
     private static void wouldTouchXs() {
@@ -885,7 +912,8 @@ final class SquarePromises {
         for (int id : new int[] {0, 3, 16, 23}) {
             Promise.refused("wouldTouch(" + id + ", 0, 0)", Promise.BAD_STATE, t -> t.wouldTouch(id, 0, 0));
         }
-        Promise.outcome(SkipQuadtree::new, "wouldTouch(7, 63, 63) of none", Promise.BAD_STATE, t -> t.wouldTouch(7, 63, 63));
+        Promise.outcome(SkipQuadtree::new, "wouldTouch(7, 63, 63) of none", Promise.BAD_STATE,
+            t -> t.wouldTouch(7, 63, 63));
     }
 
     private static void wouldTouchOrder() {
